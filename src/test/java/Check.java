@@ -1,0 +1,31 @@
+/** Counts the answers that are not as due. */
+final class Check {
+    private int wrong = 0;
+    private int asked = 0;
+    private final String test;
+
+    Check(String test) {
+        this.test = test;
+    }
+
+    void due(String call, long got, long want) {
+        asked++;
+        if (got != want) {
+            wrong++;
+            if (wrong <= 50) {
+                System.out.println(test + ": " + call + " answered " + got + ", due is " + want);
+            }
+        }
+    }
+
+    void due(String call, boolean got, boolean want) {
+        due(call, got ? 1 : 0, want ? 1 : 0);
+    }
+
+    void end() {
+        System.out.println(test + ": " + asked + " answers, " + wrong + " not as due");
+        if (wrong != 0) {
+            System.exit(1);
+        }
+    }
+}
