@@ -269,6 +269,11 @@ public final class RegretTable {
             }
         }
 
+        void clear() {
+            used = 0;
+            negative = false;
+        }
+
         void become(long value) {
             long left = value < 0 ? -value : value;
             for (int i = 0; i < WORDS_OF_LONG; i++) {
@@ -295,8 +300,8 @@ public final class RegretTable {
             return negative ? -1 : 1;
         }
 
-        boolean isOne() {
-            return used == 1 && words[0] == 1 && !negative;
+        boolean isOneWithoutSign() {
+            return used == 1 && words[0] == 1;
         }
 
         int lengthInBits() {
@@ -382,8 +387,8 @@ public final class RegretTable {
 
     /** In lowest terms, the bottom above 0: whoever writes the two parts keeps to that. */
     private static final class Fraction {
-        final Whole top = new Whole();
-        final Whole bottom = new Whole();
+        Whole top = new Whole();
+        Whole bottom = new Whole();
 
         Fraction() {
             bottom.become(1);
@@ -397,6 +402,13 @@ public final class RegretTable {
         void copy(Fraction other) {
             top.copy(other.top);
             bottom.copy(other.bottom);
+        }
+
+        /** 1 over the fraction, which must be above 0. */
+        void turnOver() {
+            Whole above = bottom;
+            bottom = top;
+            top = above;
         }
 
         int longest() {
@@ -423,6 +435,7 @@ public final class RegretTable {
         private final Whole first = new Whole();
         private final Whole second = new Whole();
         private final Whole scale = new Whole();
+        private final long[] factors = new long[4];
 
         /**
          * Adds by * factor to a fraction. With g common to both bottoms, and e to the factor and what
@@ -454,21 +467,13 @@ public final class RegretTable {
             to.bottom.product(left, right);
         }
 
+        /** What each top has in common with the other bottom is left out first: so the numbers stay short. */
         void multiply(Fraction to, Fraction by) {
-            multiplyBy(to, by.top, by.bottom);
-        }
-
-        /** Divides by a fraction above 0. */
-        void divideBy(Fraction to, Fraction by) {
-            multiplyBy(to, by.bottom, by.top);
-        }
-
-        private void multiplyBy(Fraction to, Whole above, Whole below) {
-            findCommon(to.top, below);
+            findCommon(to.top, by.bottom);
             divideOut(to.top, common, first);
-            divideOut(below, common, right);
-            findCommon(above, to.bottom);
-            divideOut(above, common, second);
+            divideOut(by.bottom, common, right);
+            findCommon(by.top, to.bottom);
+            divideOut(by.top, common, second);
             divideOut(to.bottom, common, left);
             to.top.product(first, second);
             to.bottom.product(left, right);
@@ -507,9 +512,9 @@ public final class RegretTable {
             return fraction.top.negative ? -value : value;
         }
 
-        /** The quotient of a division that leaves nothing; it may take the number's own place. */
+        /** The quotient of a division, by a number above 0, that leaves nothing. */
         private void divideOut(Whole number, Whole by, Whole into) {
-            if (by.isOne()) {
+            if (by.isOneWithoutSign()) {
                 into.copy(number);
                 return;
             }
@@ -522,30 +527,36 @@ public final class RegretTable {
 
         /** Leaves in common what two numbers, not both 0, have in common. */
         private void findCommon(Whole a, Whole b) {
-            if (a.isOne() || b.isOne()) {
+            if (a.isOneWithoutSign() || b.isOneWithoutSign()) {
                 common.become(1);
                 return;
             }
+            if (a.used <= 2 && b.used <= 2) {
+                common.become(commonOf(a.lowest(), b.lowest()));
+                return;
+            }
             boolean inOrder = a.compareSize(b) >= 0;
-            Whole long1 = greater;
-            Whole long2 = lesser;
-            long1.copy(inOrder ? a : b);
-            long2.copy(inOrder ? b : a);
-            for (int i = 0; i < MOST_STEPS && long2.used > 2; i++) {
-                if (!shrink(long1, long2)) {
-                    divide(long1, long2);
-                    Whole divided = long1;
-                    long1 = long2;
-                    long2 = divided;
+            Whole large = greater;
+            Whole small = lesser;
+            large.copy(inOrder ? a : b);
+            small.copy(inOrder ? b : a);
+            for (int i = 0; i < MOST_STEPS && small.used > 2; i++) {
+                if (findFactors(large, small)) {
+                    combine(large, small);
+                } else {
+                    divide(large, small);
+                    Whole divided = large;
+                    large = small;
+                    small = divided;
                 }
             }
-            if (long2.used == 0) {
-                common.copy(long1);
+            if (small.used == 0) {
+                common.copy(large);
                 common.negative = false;
                 return;
             }
-            divide(long1, long2);
-            common.become(commonOf(long2.lowest(), long1.lowest()));
+            divide(large, small);
+            common.become(commonOf(small.lowest(), large.lowest()));
         }
 
         private static long commonOf(long a, long b) {
@@ -560,11 +571,11 @@ public final class RegretTable {
         }
 
         /**
-         * Does some twenty of Euclid's steps at once (Lehmer): their quotients are told from the
-         * leading 62 bits alone, as long as the least and the greatest value that the bits left out
-         * allow agree on them. Does nothing, and says so, if the first quotient cannot be told.
+         * The factors that do some twenty of Euclid's steps at once (Lehmer): their quotients are told
+         * from the leading 62 bits alone, as long as the least and the greatest value that the bits
+         * left out allow agree on them. False if not even the first quotient can be told.
          */
-        private static boolean shrink(Whole large, Whole small) {
+        private boolean findFactors(Whole large, Whole small) {
             int end = large.used;
             int shift = Integer.numberOfLeadingZeros(large.words[end - 1]) - 1;
             long x = leading(large, end, shift);
@@ -591,11 +602,11 @@ public final class RegretTable {
                 d = nextD;
                 y = nextY;
             }
-            if (b == 0) {
-                return false;
-            }
-            combine(large, small, a, b, c, d);
-            return true;
+            factors[0] = a;
+            factors[1] = b;
+            factors[2] = c;
+            factors[3] = d;
+            return b != 0;
         }
 
         /** The 62 bits that lie below the word at an end, moved up by a shift. */
@@ -607,8 +618,12 @@ public final class RegretTable {
             return both << shift | low >> (Whole.WORD_BITS - shift);
         }
 
-        /** large, small := a * large + b * small, c * large + d * small: both are known not to be below 0. */
-        private static void combine(Whole large, Whole small, long a, long b, long c, long d) {
+        /** Puts both numbers together by the factors: neither comes out below 0, nor longer than large. */
+        private void combine(Whole large, Whole small) {
+            long a = factors[0];
+            long b = factors[1];
+            long c = factors[2];
+            long d = factors[3];
             int length = large.used;
             small.room(length);
             long upper = 0;
@@ -635,7 +650,7 @@ public final class RegretTable {
             int length = by.used;
             int places = number.used - length + 1;
             if (length == 0 || places <= 0) {
-                quotient.become(0);
+                quotient.clear();
                 return;
             }
             quotient.room(places);
@@ -777,12 +792,16 @@ public final class RegretTable {
                     reckoner.addTimes(total, learned[slot], 1);
                 }
             }
+            boolean isAny = total.top.sign() > 0;
+            if (isAny) {
+                total.turnOver();
+            }
             for (int slot = from; slot < from + count; slot++) {
-                if (total.top.used == 0) {
+                if (!isAny) {
                     parts[slot].become(1, count);
                 } else if (learned[slot].top.sign() > 0) {
                     parts[slot].copy(learned[slot]);
-                    reckoner.divideBy(parts[slot], total);
+                    reckoner.multiply(parts[slot], total);
                 } else {
                     parts[slot].become(0, 1);
                 }
@@ -1001,7 +1020,7 @@ public final class RegretTable {
             }
         }
 
-        /** All worths are without the chance of a pair; and A's first pass without what A gets behind a bet. */
+        /** Without the chance of a pair; and A's first pass without what A gets behind B's bet. */
         private void reckonWorthsOfA() {
             for (int card = 0; card < deck; card++) {
                 addWorth(card, FIRST_PASS, PASSED_PASS, 1, -1);

@@ -16,6 +16,8 @@ final class Model {
     private Ratio[][] regret;
     private Ratio[][] sum;
     private Ratio view = Ratio.ZERO;
+    /** The greatest bits that the last round had or, if it was refused, would have had. */
+    int longestOfLastRound;
 
     boolean table(int rows, int columns) {
         if (rows < 1 || rows > 5 || columns < 1 || columns > 5) {
@@ -150,6 +152,7 @@ final class Model {
     }
 
     private boolean adopt(Ratio[][] r, Ratio[][] s) {
+        longestOfLastRound = longest(r, s);
         for (int p = 0; p < r.length; p++) {
             for (int w = 0; w < r[p].length; w++) {
                 if (r[p][w].isGreat() || s[p][w].isGreat()) {
@@ -406,7 +409,7 @@ final class Model {
             case 5:
                 return game == 1 ? span() : 0;
             case 6:
-                return game == 0 ? 0 : longest();
+                return game == 0 ? 0 : longest(regret, sum);
             default:
                 return -1;
         }
@@ -424,9 +427,9 @@ final class Model {
         return most - least;
     }
 
-    private int longest() {
+    private static int longest(Ratio[][] regrets, Ratio[][] sums) {
         int most = 0;
-        for (Ratio[][] all : new Ratio[][][] {regret, sum}) {
+        for (Ratio[][] all : new Ratio[][][] {regrets, sums}) {
             for (Ratio[] place : all) {
                 for (Ratio r : place) {
                     most = Math.max(most, r.longest());

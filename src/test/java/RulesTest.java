@@ -1,0 +1,100 @@
+import java.io.IOException;
+import java.lang.reflect.Constructor;
+import java.lang.reflect.Field;
+import java.lang.reflect.Method;
+import java.lang.reflect.Modifier;
+import java.nio.file.Files;
+import java.nio.file.Path;
+import java.util.Arrays;
+import java.util.Set;
+import java.util.TreeSet;
+import java.util.regex.Matcher;
+import java.util.regex.Pattern;
+
+/** The face of the class, and those rules of LANGUAGE.md that can be read off its text. */
+public final class RulesTest {
+    private static final Check CHECK = new Check("RulesTest");
+
+    private static final String[] FACE = {
+        "boolean table(int, int)", "boolean set(int, int, int)", "boolean cards(int)", "boolean column(int)",
+        "boolean row(int)", "int round()", "boolean view(int, int, int)", "int size(int)", "int bits(int, int)",
+        "long times(int)", "int bound(int)", "int about(int)"};
+
+    private static final String[] FORBIDDEN = {
+        "import", "throw", "throws", "try", "catch", "finally", "synchronized", "assert", "volatile", "native",
+        "static \\{", "->", "::", "Exact", "BigInteger", "Random", "System\\.(?!arraycopy)", "Thread", "hashCode",
+        "toString", "package"};
+
+    public static void main(String[] args) throws IOException {
+        face();
+        String code = withoutComments(Files.readString(Path.of("src/main/java/RegretTable.java")));
+        for (String word : FORBIDDEN) {
+            String whole = Character.isLetter(word.charAt(0)) && word.matches("\\w+") ? "\\b" + word + "\\b" : word;
+            CHECK.due("forbidden: " + word, Pattern.compile(whole).matcher(code).find(), false);
+        }
+        methods(code);
+        CHECK.end();
+    }
+
+    private static String withoutComments(String text) {
+        return text.replaceAll("(?s)/\\*.*?\\*/", "").replaceAll("//[^\n]*", "");
+    }
+
+    private static void face() {
+        Class<?> c = RegretTable.class;
+        CHECK.due("public and final", c.getModifiers() == (Modifier.PUBLIC | Modifier.FINAL), true);
+        Set<String> names = new TreeSet<>();
+        Set<String> due = new TreeSet<>(Arrays.asList(FACE));
+        for (Method m : c.getDeclaredMethods()) {
+            if (Modifier.isPublic(m.getModifiers())) {
+                names.add(m.getReturnType() + " " + m.getName() + Arrays.toString(m.getParameterTypes())
+                        .replace('[', '(').replace(']', ')'));
+            } else {
+                CHECK.due("private: " + m, Modifier.isPrivate(m.getModifiers()), true);
+            }
+        }
+        CHECK.due("methods " + names, names.equals(due), true);
+        for (Field f : c.getDeclaredFields()) {
+            boolean isNone = f.getName().equals("NONE");
+            CHECK.due("private: " + f, Modifier.isPrivate(f.getModifiers()), !isNone);
+        }
+        Constructor<?>[] constructors = c.getDeclaredConstructors();
+        CHECK.due("constructors", constructors.length, 1);
+        CHECK.due("public constructor", Modifier.isPublic(constructors[0].getModifiers()), true);
+        CHECK.due("without parameters", constructors[0].getParameterCount(), 0);
+        CHECK.due("classes", c.getDeclaredClasses().length <= 11, true);
+        for (Class<?> inside : c.getDeclaredClasses()) {
+            inside(inside);
+        }
+    }
+
+    private static void inside(Class<?> inside) {
+        CHECK.due("static: " + inside, Modifier.isStatic(inside.getModifiers()), true);
+        int fields = 0;
+        for (Field f : inside.getDeclaredFields()) {
+            if (Modifier.isStatic(f.getModifiers())) {
+                CHECK.due("final: " + f, Modifier.isFinal(f.getModifiers()), true);
+            } else {
+                fields++;
+            }
+        }
+        CHECK.due("fields of " + inside, fields <= 20, true);
+        for (Method m : inside.getDeclaredMethods()) {
+            CHECK.due("no name of the face: " + m, Arrays.stream(FACE).anyMatch(f -> f.contains(" " + m.getName() + "(")),
+                    false);
+            CHECK.due("parameters: " + m, m.getParameterCount() <= 7, true);
+        }
+    }
+
+    /** A method's first line is indented by 4 or 8, and its last one alike. */
+    private static void methods(String code) {
+        Matcher method = Pattern.compile("(?m)^( {4}| {8})[a-zA-Z][^=;\n]*\\)\\s*\\{\n(?s:.*?)^\\1\\}\n").matcher(code);
+        int count = 0;
+        while (method.find()) {
+            count++;
+            long lines = method.group().lines().count();
+            CHECK.due("lines of " + method.group().lines().findFirst().orElse(""), lines <= 60, true);
+        }
+        CHECK.due("methods found", count > 60, true);
+    }
+}
