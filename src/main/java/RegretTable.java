@@ -577,6 +577,9 @@ public final class RegretTable {
          */
         private boolean findFactors(Whole large, Whole small) {
             int end = large.used;
+            if (end == 0) {
+                return false;
+            }
             int shift = Integer.numberOfLeadingZeros(large.words[end - 1]) - 1;
             long x = leading(large, end, shift);
             long y = leading(small, end, shift);
