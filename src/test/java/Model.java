@@ -5,6 +5,9 @@ import java.math.BigInteger;
  * through pair by pair, and a best answer is found by trying every way at every place.
  */
 final class Model {
+    static final String[] PARTS = {"numerator of an R above 0", "numerator of an R below 0", "denominator of an R",
+        "numerator of a SUM", "denominator of a SUM"};
+
     private int game = 0;
     private int rows;
     private int columns;
@@ -16,8 +19,9 @@ final class Model {
     private Ratio[][] regret;
     private Ratio[][] sum;
     private Ratio view = Ratio.ZERO;
-    /** The greatest bits that the last round had or, if it was refused, would have had. */
-    int longestOfLastRound;
+    /** What the last round made of R and SUM or, if it was refused, would have made. */
+    Ratio[][] lastRegret;
+    Ratio[][] lastSum;
 
     boolean table(int rows, int columns) {
         if (rows < 1 || rows > 5 || columns < 1 || columns > 5) {
@@ -152,7 +156,8 @@ final class Model {
     }
 
     private boolean adopt(Ratio[][] r, Ratio[][] s) {
-        longestOfLastRound = longest(r, s);
+        lastRegret = r;
+        lastSum = s;
         for (int p = 0; p < r.length; p++) {
             for (int w = 0; w < r[p].length; w++) {
                 if (r[p][w].isGreat() || s[p][w].isGreat()) {
@@ -164,6 +169,21 @@ final class Model {
         sum = s;
         rounds++;
         return true;
+    }
+
+    /** Of a place behind the last round: the greatest bits of each of the five PARTS. */
+    int[] bitsOfLastRound(int place) {
+        int[] bits = new int[PARTS.length];
+        for (Ratio r : lastRegret[place]) {
+            int top = r.sign() < 0 ? 1 : 0;
+            bits[top] = Math.max(bits[top], r.top.abs().bitLength());
+            bits[2] = Math.max(bits[2], r.bottom.bitLength());
+        }
+        for (Ratio s : lastSum[place]) {
+            bits[3] = Math.max(bits[3], s.top.bitLength());
+            bits[4] = Math.max(bits[4], s.bottom.bitLength());
+        }
+        return bits;
     }
 
     int round() {
@@ -319,6 +339,10 @@ final class Model {
         }
         view = seen;
         return true;
+    }
+
+    Ratio viewed() {
+        return view;
     }
 
     private Ratio find(int what, int place, int way) {

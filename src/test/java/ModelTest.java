@@ -7,7 +7,7 @@ public final class ModelTest {
     private final Check check;
     private final Random random;
     private final int run;
-    private final RegretTable table = new RegretTable();
+    private final Tireless table = new Tireless();
     private final Model model = new Model();
 
     private ModelTest(Check check, int run) {

@@ -21,9 +21,9 @@ public final class RulesTest {
         "long times(int)", "int bound(int)", "int about(int)"};
 
     private static final String[] FORBIDDEN = {
-        "import", "throw", "throws", "try", "catch", "finally", "synchronized", "assert", "volatile", "native",
+        "import (?!java\\.util\\.(ArrayList|List|Arrays|Iterator);)", "throw", "throws", "try", "catch", "finally", "synchronized", "assert", "volatile", "native",
         "static \\{", "->", "::", "Exact", "BigInteger", "Random", "System\\.(?!arraycopy)", "Thread", "hashCode",
-        "toString", "package"};
+        "String toString", "package"};
 
     public static void main(String[] args) throws IOException {
         face();
