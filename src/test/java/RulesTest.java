@@ -21,9 +21,9 @@ public final class RulesTest {
         "long times(int)", "int bound(int)", "int about(int)"};
 
     private static final String[] FORBIDDEN = {
-        "import (?!java\\.util\\.(ArrayList|List|Arrays|Iterator);)", "throw", "throws", "try", "catch", "finally", "synchronized", "assert", "volatile", "native",
-        "static \\{", "->", "::", "Exact", "BigInteger", "Random", "System\\.(?!arraycopy)", "Thread", "hashCode",
-        "String toString", "package"};
+        "import (?!java\\.util\\.(ArrayList|List|Arrays|Iterator);)", "package", "throw", "throws", "try", "catch",
+        "finally", "synchronized", "assert", "volatile", "native", "static \\{", "->", "::", "Exact", "BigInteger",
+        "Random", "System\\.(?!arraycopy)", "Thread", "hashCode", "String toString"};
 
     public static void main(String[] args) throws IOException {
         face();
@@ -80,8 +80,8 @@ public final class RulesTest {
         }
         CHECK.due("fields of " + inside, fields <= 20, true);
         for (Method m : inside.getDeclaredMethods()) {
-            CHECK.due("no name of the face: " + m, Arrays.stream(FACE).anyMatch(f -> f.contains(" " + m.getName() + "(")),
-                    false);
+            boolean isOfFace = Arrays.stream(FACE).anyMatch(f -> f.contains(" " + m.getName() + "("));
+            CHECK.due("no name of the face: " + m, isOfFace, false);
             CHECK.due("parameters: " + m, m.getParameterCount() <= 7, true);
         }
     }
@@ -95,6 +95,6 @@ public final class RulesTest {
             long lines = method.group().lines().count();
             CHECK.due("lines of " + method.group().lines().findFirst().orElse(""), lines <= 60, true);
         }
-        CHECK.due("methods found", count > 60, true);
+        CHECK.due("at least the methods of the face were found", count >= FACE.length, true);
     }
 }

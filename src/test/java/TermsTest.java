@@ -19,10 +19,10 @@ public final class TermsTest {
         CHECK.test("MIX: an R that is 0 gets no part beside one above 0", TermsTest::mixOfZero);
         CHECK.test("MIX: an R below 0 gets no part", TermsTest::mixBelowZero);
         CHECK.test("MIX: parts of the sum of those above 0 alone", TermsTest::mixOfThoseAbove);
-        CHECK.test("MIX: 1 / n each if no R is above 0, ahead of rounds", TermsTest::mixAtFirst);
+        CHECK.test("MIX: 1 / n each if no R is above 0, ahead of rounds", () -> alikeAtFirst(MIX));
         CHECK.test("MIX: 1 / n each if no R is above 0, behind rounds", TermsTest::mixBehindRoundsOfNoRegret);
         CHECK.test("MEAN: SUM as parts of their sum", TermsTest::mean);
-        CHECK.test("MEAN: 1 / n each if the sum is 0", TermsTest::meanOfNothing);
+        CHECK.test("MEAN: 1 / n each if the sum is 0", () -> alikeAtFirst(MEAN));
         CHECK.test("MEAN: 1 / n each for the one who did not play", TermsTest::meanOfWhoDidNotPlay);
         CHECK.test("a round of both is by the mixes ahead of it", TermsTest::roundByMixesAhead);
         CHECK.test("BEST of A is the greatest, also if all are below 0", TermsTest::bestOfABelowZero);
@@ -119,15 +119,16 @@ public final class TermsTest {
         CHECK.ways("MIX", t, MIX, A, 4, 7, 3, 7, 0, 1, 0, 1);
     }
 
-    private static void mixAtFirst() {
+    /** MIX or MEAN, of each number of ways. */
+    private static void alikeAtFirst(int what) {
         for (int n = 1; n <= 5; n++) {
             Tireless t = Games.table(n, 6 - n, 9);
-            everyWay("MIX of A", t, MIX, A, n);
-            everyWay("MIX of B", t, MIX, B, 6 - n);
+            everyWay("of A", t, what, A, n);
+            everyWay("of B", t, what, B, 6 - n);
         }
         Tireless t = Games.cards(5, 0);
         for (int place = 0; place < 20; place++) {
-            everyWay("MIX of cards", t, MIX, place, 2);
+            everyWay("of cards", t, what, place, 2);
         }
     }
 
@@ -162,18 +163,6 @@ public final class TermsTest {
         t.column(1);
         CHECK.ways("SUM", t, SUM, A, 3, 2, 1, 2);
         CHECK.ways("MEAN", t, MEAN, A, 3, 4, 1, 4);
-    }
-
-    private static void meanOfNothing() {
-        for (int n = 1; n <= 5; n++) {
-            Tireless t = Games.table(n, 6 - n, 9);
-            everyWay("MEAN of A", t, MEAN, A, n);
-            everyWay("MEAN of B", t, MEAN, B, 6 - n);
-        }
-        Tireless t = Games.cards(5, 0);
-        for (int place = 0; place < 20; place++) {
-            everyWay("MEAN of cards", t, MEAN, place, 2);
-        }
     }
 
     private static void meanOfWhoDidNotPlay() {
