@@ -42,6 +42,7 @@ public final class RulesTest {
 
     private static void face() {
         Class<?> c = RegretTable.class;
+        CHECK.due("NONE", RegretTable.NONE, -1);
         CHECK.due("public and final", c.getModifiers() == (Modifier.PUBLIC | Modifier.FINAL), true);
         Set<String> names = new TreeSet<>();
         Set<String> due = new TreeSet<>(Arrays.asList(FACE));
