@@ -24,6 +24,7 @@ public final class ReckonerTest {
             division(reckoner, almost.max(BigInteger.ZERO), by);
             BigInteger shared = number(RANDOM.nextInt(4)).add(BigInteger.ONE);
             common(reckoner, number(RANDOM.nextInt(12)).multiply(shared), by.multiply(shared));
+            largeQuotients(reckoner, shared);
         }
         CHECK.end();
     }
@@ -36,6 +37,22 @@ public final class ReckonerTest {
             number = number.shiftLeft(Inside.WORD_BITS).add(BigInteger.valueOf(word));
         }
         return number;
+    }
+
+    /** Two numbers made from told quotients, many of them large: numbers at random hardly ever have such. */
+    private static void largeQuotients(Object reckoner, BigInteger shared) {
+        BigInteger large = shared;
+        BigInteger small = BigInteger.ZERO;
+        int steps = 2 + RANDOM.nextInt(30);
+        for (int i = 0; i < steps; i++) {
+            int bits = RANDOM.nextBoolean() ? 1 + RANDOM.nextInt(3) : 1 + RANDOM.nextInt(34);
+            BigInteger quotient = new BigInteger(bits, RANDOM).setBit(bits - 1);
+            BigInteger next = quotient.multiply(large).add(small);
+            small = large;
+            large = next;
+        }
+        common(reckoner, large, small);
+        common(reckoner, small, large);
     }
 
     private static Object whole(BigInteger number) {
