@@ -1,4 +1,5 @@
 import java.io.IOException;
+import java.lang.management.ManagementFactory;
 import java.lang.reflect.Constructor;
 import java.lang.reflect.Field;
 import java.lang.reflect.Method;
@@ -11,7 +12,7 @@ import java.util.TreeSet;
 import java.util.regex.Matcher;
 import java.util.regex.Pattern;
 
-/** The face of the class, and those rules of LANGUAGE.md that can be read off its text. */
+/** The face of the class, those rules of LANGUAGE.md that can be read off its text, and the room it takes. */
 public final class RulesTest {
     private static final Check CHECK = new Check("RulesTest");
 
@@ -33,6 +34,7 @@ public final class RulesTest {
             CHECK.due("forbidden: " + word, Pattern.compile(whole).matcher(code).find(), false);
         }
         methods(code);
+        room();
         CHECK.end();
     }
 
@@ -97,5 +99,29 @@ public final class RulesTest {
             CHECK.due("lines of " + method.group().lines().findFirst().orElse(""), lines <= 60, true);
         }
         CHECK.due("at least the methods of the face were found", count >= FACE.length, true);
+    }
+
+    /**
+     * The dearest rounds and looks of 512 calls. An object takes 16 bytes at the least, so a megabyte is far
+     * below the room that all calls of a run share.
+     */
+    private static void room() {
+        com.sun.management.ThreadMXBean threads = (com.sun.management.ThreadMXBean) ManagementFactory.getThreadMXBean();
+        playAndLook();
+        long before = threads.getCurrentThreadAllocatedBytes();
+        playAndLook();
+        long taken = threads.getCurrentThreadAllocatedBytes() - before;
+        CHECK.due("room taken by 512 calls: " + taken, taken < 1000000, true);
+    }
+
+    private static void playAndLook() {
+        RegretTable t = new RegretTable();
+        t.cards(5);
+        for (int i = 0; i < 10; i++) {
+            t.round();
+        }
+        for (int i = 0; i < 500; i++) {
+            t.view(i % 6, 0, 0);
+        }
     }
 }
